@@ -332,7 +332,7 @@ public final class TwinOrders {
         if (!isCap(free)) {
             return NONE;
         }
-        Arrays.fill(packed, 0);
+        Arrays.fill(packed, 0, free + 1, 0);
         int pinnedCounts = 0;
         for (int i = 0; i < all.size; i++) {
             if (all.pinned[i]) {

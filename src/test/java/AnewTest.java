@@ -33,6 +33,8 @@ public final class AnewTest {
         }
         due.is("none such", x.distance(9), -1);
         due.is("none such", x.distance(-1), -1);
+        due.is("asked first of all", asked(1, 2, 1).profile(1), 1);
+        due.is("asked first of all", asked(1, 2, 1).profile(-1), 2);
         int[] profile = {4, 2, 1, 1, 1, 0};
         for (int d = -1; d < 5; d++) {
             due.is("profile(" + d + ")", x.profile(d), profile[d + 1]);
@@ -79,6 +81,8 @@ public final class AnewTest {
             due.is("others", x.replay(0, 2, far), -1);
         }
         due.part("promise 39, on paper from the start");
+        due.is("five go by turns", x.replay(2, 1, 1), 5);
+        due.is("and the turns begin anew", x.replay(2, 2, 0), 3);
         // The store's own way, balance, turns, pins and caps do not come in.
         TwinOrders y = new TwinOrders();
         y.way(2);
@@ -153,6 +157,9 @@ public final class AnewTest {
         }
         x = asked(1, 2, 3, 4, 5, 1);
         due.is("from the one by which it goes", x.regret(0, 3, 1), 2);
+        // By use with 2: 1 goes at the third, three ahead of its next; again at the eighth, one ahead.
+        x = asked(1, 2, 3, 4, 3, 1, 5, 6, 1, 5);
+        due.is("the nearest comes late", x.regret(0, 2, 1), 1);
     }
 
     private static void agree() {
@@ -166,6 +173,10 @@ public final class AnewTest {
         for (int k = 0; k < 3; k++) {
             due.is("rising", x.agree(3, k), new int[] {1, 8, 9}[k]);
         }
+        // By balance the ghost 3 makes 4, old, go; by all others 3 and 4 are left.
+        x = asked(3, 4, 2, 4, 3);
+        due.is("how many", x.agree(2, -1), 1);
+        due.is("which", x.agree(2, 0), 3);
         x = asked(30, 20, 10, 40);
         for (int k = 0; k < 4; k++) {
             due.is("rising", x.agree(60, k), 10 * (k + 1));
@@ -221,6 +232,8 @@ public final class AnewTest {
         due.is("all alike", x.best(60, 0), 0);
         x = asked(1, 2, 3, 1, 2, 3);
         due.is("none by any", x.best(2, 0), 0);
+        due.is("by balance", asked(1, 2, 3, 1, 2, 4, 1, 2, 3, 4).best(3, 0), 4);
+        due.is("by what comes no more", asked(1, 2, 3, 1, 2, 4, 1, 2, 3, 4).best(3, 1), 0);
         due.is("more by what comes", x.best(2, 1), x.replay(5, 2, 0));
         due.is("more by what comes", x.replay(5, 2, 0), 2);
         due.is("others", x.best(2, 2), -1);

@@ -24,6 +24,8 @@ public final class DoingTest {
         turn();
         chance();
         images();
+        wholeImages();
+        eachCallHearsItsOwn();
         due.end("DoingTest");
     }
 
@@ -516,6 +518,12 @@ public final class DoingTest {
         x.put(3, 0, 1, 0);
         due.is("unpinned", x.entry(3, 5), 0);
         due.is("another alone counts", x.listener(1, 2), 1);
+        x.put(3, 0, 1, 0);
+        x.put(2, 0, 1, 0);
+        x.get(99);
+        x.get(98);
+        due.is("neither what is so already nor what is not there", x.listener(0, 2), 1);
+        due.is("neither what is so already nor what is not there", x.listener(1, 2), 1);
 
         x = new TwinOrders();
         x.listen(4, 2, 0, 6, -15, 0);
@@ -713,5 +721,143 @@ public final class DoingTest {
         due.is("images are aside: image 1 is still empty", x.back(1), 0);
         due.is("and kept anew", x.keep(0), 0);
         due.is("and kept anew", x.back(0), 0);
+    }
+
+    /** All that can be asked of an object without much ado. */
+    private static java.util.List<Integer> all(TwinOrders x) {
+        java.util.List<Integer> answers = new java.util.ArrayList<>();
+        for (int what = 0; what < 20; what++) {
+            answers.add(x.count(what));
+        }
+        for (int k = 0; k < 100; k++) {
+            for (int what = 0; what < 8; what++) {
+                answers.add(x.entry(k, what));
+                answers.add(x.heard(k, what));
+                answers.add(x.listener(k, what));
+            }
+            for (int sort = 0; sort < 2; sort++) {
+                answers.add(x.order(sort, k));
+                answers.add(x.ghost(sort, k));
+            }
+            answers.add(x.request(k));
+        }
+        for (int listener = 0; listener < 8; listener++) {
+            answers.add(x.ring(listener));
+        }
+        return answers;
+    }
+
+    private static void rich(TwinOrders x) {
+        x.resize(90);
+        x.aging(11);
+        x.way(4);
+        x.listen(2, 3, 1, 1, 5, 2);
+        x.listen(5, 2, 1, 2, 1, 0);
+        x.listen(-1, 5, 4, 6, -1, 0);
+        x.listen(0, 4, 3, 4, 0, 0);
+        x.turn(2, false);
+        x.chance(99, 60);
+        x.put(7, 70, 9, 30);
+        x.put(8, 80, 9, 40);
+        x.tick(3);
+        x.way(2);
+        x.chance(100, 60);
+        x.turn(2, true);
+        x.get(41);
+        // A tree of misses, so that something is lost and deep; then something expires.
+        x.listen(5, 1, 0, 2, 41, 0);
+        x.listen(5, 1, 0, 2, 43, 0);
+        x.get(43);
+        x.turn(4, false);
+        x.turn(5, false);
+        x.put(9, 90, 5, 1);
+        x.tick(1);
+        // Something rejected, something that goes old.
+        x.put(11, 0, 99, 0);
+        x.aging(999);
+        x.put(60, 6, 5, 0);
+        x.get(60);
+        x.resize(x.count(16));
+        x.resize(95);
+        x.put(61, 6, 5, 70);
+        x.put(62, 6, 5, 0);
+    }
+
+    private static void wholeImages() {
+        due.part("promises 13, 14, all of it");
+        TwinOrders x = new TwinOrders();
+        rich(x);
+        java.util.List<Integer> before = all(x);
+        for (int what : new int[] {4, 9, 10, 11, 12, 13, 14, 16, 17, 18, 19}) {
+            due.isTrue("count(" + what + ") is above 0", x.count(what) > 0);
+        }
+        due.isTrue("old ghosts", x.ghost(1, 0) >= 0);
+        x.keep(1);
+        TwinOrders beside = new TwinOrders();
+        rich(beside);
+        x.resize(0);
+        x.resize(77);
+        x.aging(3);
+        x.listen(-1, 1, 0, 3, 0, 0);
+        x.chance(5, 60);
+        x.tick(700);
+        due.isTrue("something else", !before.equals(all(x)));
+        x.back(1);
+        due.isTrue("all is as it was", before.equals(all(x)));
+        for (int seed = 0; seed < 4; seed++) {
+            due.is("goes on alike", x.chance(seed, 60), beside.chance(seed, 60));
+            due.is("goes on alike", x.tick(9), beside.tick(9));
+            due.isTrue("goes on alike", all(x).equals(all(beside)));
+        }
+        x.back(1);
+        x.keep(0);
+        due.isTrue("kept from an image", x.back(0) == x.count(0) && before.equals(all(x)));
+        otherListenersBetween(before);
+    }
+
+    /** From an image of nothing on, so that nothing is right by having been there before. */
+    private static void otherListenersBetween(java.util.List<Integer> before) {
+        TwinOrders x = new TwinOrders();
+        x.keep(0);
+        rich(x);
+        x.keep(1);
+        x.back(0);
+        for (int listener = 0; listener < 8; listener++) {
+            due.is("another listener", x.listen(6, 9, 7, 1, 9, 9), listener);
+            due.is("heard nothing", x.listener(listener, 1), 0);
+            due.is("did nothing", x.listener(listener, 2), 0);
+        }
+        due.is("nothing lost", x.count(14), 0);
+        due.is("nothing deep", x.count(19), 0);
+        x.put(7, 1, 99, 0);
+        x.tick(1);
+        x.back(1);
+        due.isTrue("all is as it was", before.equals(all(x)));
+        TwinOrders beside = new TwinOrders();
+        rich(beside);
+        for (int seed = 0; seed < 4; seed++) {
+            due.is("goes on alike", x.chance(seed, 60), beside.chance(seed, 60));
+            due.is("goes on alike", x.tick(9), beside.tick(9));
+            due.isTrue("goes on alike", all(x).equals(all(beside)));
+        }
+    }
+
+    private static void eachCallHearsItsOwn() {
+        due.part("each call hears its own events");
+        TwinOrders x = new TwinOrders();
+        x.put(1, 0, 1, 0);
+        x.resize(30);
+        x.resize(-1);
+        x.tick(1);
+        x.remove(5);
+        x.get(1);
+        x.way(1);
+        x.stir(2, 2, -1, 0);
+        x.kept(0, -1);
+        x.victims(30, -1);
+        x.resize(30);
+        due.is("one came, no more", x.heard(0, 0), 0);
+        due.is("one came, no more", x.heard(1, 0), -1);
+        due.is("one came, no more", x.logged(0, 0), 1);
     }
 }

@@ -27,6 +27,7 @@ public final class RoomTest {
         long one = allocated() - before;
         due.isTrue("an object takes " + one + " bytes, 50000 at most", one <= 50000);
         due.is("it is empty", made.count(0), 0);
+        System.out.println("an object takes " + one + " bytes, a run " + least);
         anyArguments();
         due.end("RoomTest");
     }

@@ -188,6 +188,14 @@ public final class WouldBeTest {
         }
         due.is("full", x.pack(5000), 60);
         due.is("one less", x.pack(60 * 83 - 1), 59);
+        x.remove(0);
+        x.put(0, 0, 99, 0);
+        for (int key = 1; key < 5; key++) {
+            x.put(key, 0, 84, 0);
+        }
+        due.is("as heavy as can be", x.count(1), 5000);
+        due.is("all", x.pack(5000), 64);
+        due.is("one of the heavy ones that were put once stays out", x.pack(4999), 63);
     }
 
     private static void wakes() {
@@ -238,6 +246,8 @@ public final class WouldBeTest {
         x.listen(6, 5, 3, 1, 0, 1);
         due.is("a put of the same key changes it", x.wakes(4, 4), 1);
         due.is("another rest", x.wakes(4, 5), 0);
+        x.listen(2, 1, 0, 6, 0, 0);
+        due.is("cap as it is evicts nothing", x.wakes(6, 6), 0);
     }
 
     private static void ring() {
@@ -347,6 +357,10 @@ public final class WouldBeTest {
             due.is("others", x.behind(3, 1, far), -1);
         }
         due.is("nothing is done", x.count(5), 7);
+        x.aging(8);
+        x.get(4);
+        due.is("halved so far", x.count(17), 1);
+        due.is("those of before are aside", x.behind(3, 8, 2), 1);
     }
 
     private static void turnOf() {
