@@ -221,7 +221,8 @@ final class AnewSentences {
     }
 
     private static void regret(Sentences s) {
-        s.of(37, "GONE THROUGH ANEW by a WAY (0 .. 5) with CAP c: how many times one is EVICTED whose KEY is requested again behind that (what 0)", due -> {
+        s.of(37, "GONE THROUGH ANEW by a WAY (0 .. 5) with CAP c: how many times one is EVICTED whose KEY is "
+            + "requested again behind that (what 0)", due -> {
             TwinOrders x = seven();
             due.is("2 and 1 again, 3 never", x.regret(0, 2, 0), 2);
             due.is("by what comes", x.regret(5, 2, 0), 1);
@@ -230,7 +231,8 @@ final class AnewSentences {
             due.is("each time", Make.asked(1, 2, 1, 2, 1).regret(0, 1, 0), 3);
         }).broken("gone[i] != NONE && nextOf(gone[i], i) < size", "gone[i] != NONE")
             .broken("gone[i] != NONE && nextOf(gone[i], i) < size", "gone[i] != NONE && nextOf(gone[i], i + 1) < size");
-        s.of(37, "the least number of REQUESTS from such one (that by which it goes) to that next one of its KEY (1: 1 is the very next REQUEST", due -> {
+        s.of(37, "the least number of REQUESTS from such one (that by which it goes) to that next one of its KEY (1: "
+            + "1 is the very next REQUEST", due -> {
             due.is("the very next", seven().regret(0, 2, 1), 1);
             due.is("by what comes", seven().regret(5, 2, 1), 2);
             due.is("1 goes by 4, two behind", Make.asked(1, 2, 3, 4, 5, 1).regret(0, 3, 1), 2);
@@ -301,7 +303,8 @@ final class AnewSentences {
     }
 
     private static void replay(Sentences s) {
-        s.of(39, "GONE THROUGH ANEW with CAP c by a WAY (0 .. 5): 0 HITS, 1 how many are EVICTED, 2 how many are there at the end.", due -> {
+        s.of(39, "GONE THROUGH ANEW with CAP c by a WAY (0 .. 5): 0 HITS, 1 how many are EVICTED, 2 how many are "
+            + "there at the end.", due -> {
             int[][] at = {{2, 3, 2}, {3, 2, 2}, {3, 2, 2}, {2, 3, 2}, {2, 3, 2}, {3, 2, 2}};
             for (int way = 0; way <= 5; way++) {
                 int by = way;

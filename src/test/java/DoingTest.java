@@ -747,46 +747,10 @@ public final class DoingTest {
         return answers;
     }
 
-    private static void rich(TwinOrders x) {
-        x.resize(90);
-        x.aging(11);
-        x.way(4);
-        x.listen(2, 3, 1, 1, 5, 2);
-        x.listen(5, 2, 1, 2, 1, 0);
-        x.listen(-1, 5, 4, 6, -1, 0);
-        x.listen(0, 4, 3, 4, 0, 0);
-        x.turn(2, false);
-        x.chance(99, 60);
-        x.put(7, 70, 9, 30);
-        x.put(8, 80, 9, 40);
-        x.tick(3);
-        x.way(2);
-        x.chance(100, 60);
-        x.turn(2, true);
-        x.get(41);
-        // A tree of misses, so that something is lost and deep; then something expires.
-        x.listen(5, 1, 0, 2, 41, 0);
-        x.listen(5, 1, 0, 2, 43, 0);
-        x.get(43);
-        x.turn(4, false);
-        x.turn(5, false);
-        x.put(9, 90, 5, 1);
-        x.tick(1);
-        // Something rejected, something that goes old.
-        x.put(11, 0, 99, 0);
-        x.aging(999);
-        x.put(60, 6, 5, 0);
-        x.get(60);
-        x.resize(x.count(16));
-        x.resize(95);
-        x.put(61, 6, 5, 70);
-        x.put(62, 6, 5, 0);
-    }
-
     private static void wholeImages() {
         due.part("promises 13, 14, all of it");
         TwinOrders x = new TwinOrders();
-        rich(x);
+        Make.enrich(x);
         java.util.List<Integer> before = all(x);
         for (int what : new int[] {4, 9, 10, 11, 12, 13, 14, 16, 17, 18, 19}) {
             due.isTrue("count(" + what + ") is above 0", x.count(what) > 0);
@@ -794,7 +758,7 @@ public final class DoingTest {
         due.isTrue("old ghosts", x.ghost(1, 0) >= 0);
         x.keep(1);
         TwinOrders beside = new TwinOrders();
-        rich(beside);
+        Make.enrich(beside);
         x.resize(0);
         x.resize(77);
         x.aging(3);
@@ -819,7 +783,7 @@ public final class DoingTest {
     private static void otherListenersBetween(java.util.List<Integer> before) {
         TwinOrders x = new TwinOrders();
         x.keep(0);
-        rich(x);
+        Make.enrich(x);
         x.keep(1);
         x.back(0);
         for (int listener = 0; listener < 8; listener++) {
@@ -834,7 +798,7 @@ public final class DoingTest {
         x.back(1);
         due.isTrue("all is as it was", before.equals(all(x)));
         TwinOrders beside = new TwinOrders();
-        rich(beside);
+        Make.enrich(beside);
         for (int seed = 0; seed < 4; seed++) {
             due.is("goes on alike", x.chance(seed, 60), beside.chance(seed, 60));
             due.is("goes on alike", x.tick(9), beside.tick(9));

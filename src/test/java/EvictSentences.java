@@ -128,7 +128,8 @@ final class EvictSentences {
             x.get(1);
             due.is("halved, 1, 2 and 3 are YOUNG again", x.victim(4), 2);
         }).broken("return counts[slot] == 1;", "return counts[slot] <= 2;");
-        s.of(7, "if YOUNG ones' WEIGHTS together are above BALANCE, the first YOUNG one by ORDER 0, else the first OLD one", due -> {
+        s.of(7, "if YOUNG ones' WEIGHTS together are above BALANCE, the first YOUNG one by ORDER 0, else the first "
+            + "OLD one", due -> {
             TwinOrders x = Make.balanced(40, 6);
             due.is("BALANCE", x.count(4), 6);
             x.put(8, 0, 1, 0);

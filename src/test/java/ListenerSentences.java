@@ -246,7 +246,8 @@ final class ListenerSentences {
     }
 
     private static void ring(Sentences s) {
-        s.of(28, "By how many steps, each from a LISTENER to one that it WAKES, one comes from a LISTENER back to it, the fewest (0: never).", due -> {
+        s.of(28, "By how many steps, each from a LISTENER to one that it WAKES, one comes from a LISTENER back to it, "
+            + "the fewest (0: never).", due -> {
             TwinOrders x = listening(5, 1, 0, 3, 0, 0);
             x.listen(4, 1, 0, 1, 0, 1);
             x.listen(0, 1, 0, 2, 0, 0);
@@ -292,7 +293,8 @@ final class ListenerSentences {
     }
 
     private static void stir(Sentences s) {
-        s.of(29, "On paper a PUT of a KEY (VALUE 0, lives 0) with a WEIGHT, as a call (REQUESTS aside), with all that LISTENERS do", due -> {
+        s.of(29, "On paper a PUT of a KEY (VALUE 0, lives 0) with a WEIGHT, as a call (REQUESTS aside), with all that "
+            + "LISTENERS do", due -> {
             TwinOrders x = Make.rich();
             x.turn(4, true);
             String before = Make.all(x);
@@ -317,7 +319,8 @@ final class ListenerSentences {
             .broken("paper.copyFrom(now);\n", "paper.store.copyFrom(now.store);\n")
             .broken("paper.callPut(key, 0, weight, 0);",
                 "now.requests.add(key);\n        paper.callPut(key, 0, weight, 0);");
-        s.of(29, "how many EVENTS would be heard (k NONE, what 0), how many LOST (k NONE, 1), how many ENTRIES there would be (k NONE, 2)", due -> {
+        s.of(29, "how many EVENTS would be heard (k NONE, what 0), how many LOST (k NONE, 1), how many ENTRIES there "
+            + "would be (k NONE, 2)", due -> {
             TwinOrders x = stirred();
             due.is("heard: two EVICTED, CAME, two MISSED", x.stir(3, 20, -1, 0), 5);
             due.is("LOST", x.stir(3, 20, -1, 1), 0);

@@ -1,5 +1,6 @@
 import java.nio.file.Files;
 import java.nio.file.Path;
+import java.util.Arrays;
 import java.util.Set;
 import java.util.TreeSet;
 
@@ -14,11 +15,8 @@ public final class SentencesTest {
 
     public static void main(String[] args) throws Exception {
         Sentences sentences = Sentences.whole();
-        int wrong = 0;
         for (Sentences.Sentence one : sentences.all) {
-            int faults = one.wrong(false);
-            wrong += faults;
-            due.is(one.name() + ", wrong answers", faults, 0);
+            due.is(one.name() + ": wrong answers", one.wrong(false), 0);
         }
         due.part("the document");
         allWordsAreTested(sentences, Files.readString(Path.of("../shared/DOC.md")).replaceAll("\\s+", " "));
@@ -52,9 +50,11 @@ public final class SentencesTest {
 
     private static boolean mark(String words, String text, int from, int to, boolean[] tested) {
         boolean found = false;
-        for (int at = text.indexOf(words, from); at >= 0 && at + words.length() <= to; at = text.indexOf(words, at + 1)) {
-            java.util.Arrays.fill(tested, at, at + words.length(), true);
+        int at = text.indexOf(words, from);
+        while (at >= 0 && at + words.length() <= to) {
+            Arrays.fill(tested, at, at + words.length(), true);
             found = true;
+            at = text.indexOf(words, at + 1);
         }
         return found;
     }
@@ -64,7 +64,8 @@ public final class SentencesTest {
         for (int i = from; i < to; i++) {
             rest.append(tested[i] ? ' ' : text.charAt(i));
         }
-        String left = rest.toString().replaceAll("```(text)?|\\b(I|II|III)\\.", "").replaceAll("[^A-Za-z0-9]+", " ").strip();
+        String words = rest.toString().replaceAll("```(text)?|\\b(I|II|III)\\.", "");
+        String left = words.replaceAll("[^A-Za-z0-9]+", " ").strip();
         due.isTrue("nothing is untested but '" + left + "'", left.isEmpty());
     }
 }

@@ -212,7 +212,8 @@ final class WouldBeSentences {
     }
 
     private static void pack(Sentences s) {
-        s.of(26, "The most COUNTS together of ENTRIES, all PINNED ones among them, whose WEIGHTS together are c (0 .. 5000) or less", due -> {
+        s.of(26, "The most COUNTS together of ENTRIES, all PINNED ones among them, whose WEIGHTS together are c (0 .. "
+            + "5000) or less", due -> {
             TwinOrders x = four();
             // Weights 10 5 12 12 with counts 2 3 1 1.
             int[][] at = {{0, 0}, {4, 0}, {5, 3}, {9, 3}, {14, 3}, {15, 5}, {26, 5}, {27, 6}, {38, 6}, {39, 7}, {40, 7}, {5000, 7}};
@@ -312,7 +313,8 @@ final class WouldBeSentences {
     }
 
     private static void turnOf(Sentences s) {
-        s.of(31, "How many EVICTIONS by the WAY now, one behind the other and nothing else (on paper), there are ahead of that of a KEY.", due -> {
+        s.of(31, "How many EVICTIONS by the WAY now, one behind the other and nothing else (on paper), there are "
+            + "ahead of that of a KEY.", due -> {
             TwinOrders x = four();
             int[][] at = {{0, 3, 1, 2}, {2, 3, 0, 1}, {0, 3, 1, 2}, {2, 3, 0, 1}, {2, 3, 0, 1}};
             for (int way = 0; way <= 4; way++) {
