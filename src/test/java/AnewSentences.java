@@ -296,10 +296,14 @@ final class AnewSentences {
         s.of(38, "or there is none such.", due -> {
             TwinOrders x = Make.asked(1, 1, 1);
             none(due, "distance", x::distance, -1, 3, 99, 100);
+            none(due, "distance, KEY 0 alone", Make.asked(0, 0)::distance, -1, 2, 3);
+            none(due, "distance, 100 REQUESTS", round(5)::distance, -1, 100, 101);
             due.is("nothing requested", new TwinOrders().distance(0), -1);
         })
             .broken("int othersSince(int k) {\n            if (k < 0 || k >= size) {\n                return NONE;",
-                "int othersSince(int k) {\n            if (k < 0 || k >= size) {\n                return 0;");
+                "int othersSince(int k) {\n            if (k < 0 || k >= size) {\n                return 0;")
+            .broken("int othersSince(int k) {\n            if (k < 0 || k >= size) {",
+                "int othersSince(int k) {\n            if (k < 0 || k > size) {");
     }
 
     private static void replay(Sentences s) {

@@ -342,7 +342,14 @@ final class DoingSentences {
                 x.put(key % 30, 0, 1, 1 + key % 2);
             }
             due.is("thirty", x.tick(2), 30);
+            x.resize(60);
+            for (int key = 0; key < 60; key++) {
+                x.put(key, 0, 1, 7);
+            }
+            due.is("all of sixty", x.tick(7), 60);
         }).broken("store.happened[EXPIRED] - before", "store.happened[EXPIRED]")
+            .broken("for (int i = 0; i < MOST_ENTRIES; i++) {\n                store.lose",
+                "for (int i = 1; i < MOST_ENTRIES; i++) {\n                store.lose")
             .broken("store.lose(EXPIRED, store.entries.soonest(ticks));",
                 "if (i < 2) { store.lose(EXPIRED, store.entries.soonest(ticks)); }");
         s.of(9, "(EVENTS are heard behind all TICKS.)", due -> {
@@ -513,6 +520,7 @@ final class DoingSentences {
                 int seed = seedFor(choice, true);
                 int[] drawn = draws(seed, 8, 40, 9);
                 TwinOrders x = new TwinOrders();
+                x.tick(5);
                 x.chance(seed, 1);
                 due.is("a REQUEST", x.request(0), drawn[1]);
                 due.is("MISSED, or CAME", x.heard(0, 0), choice <= 3 ? 5 : 0);
@@ -525,6 +533,7 @@ final class DoingSentences {
             .broken("else if (choice < 7) {", "else if (choice < 6) {")
             .broken("now.callPut(key, key, weight, 0)", "now.callPut(key, 0, weight, 0)")
             .broken("now.callPut(key, key, weight, 0)", "now.callPut(key, key, weight, 1)")
+            .broken("now.callPut(key, key, weight, 0)", "now.callPut(key, key, weight, -1)")
             .broken("hits += now.callGet(key);", "hits += now.store.fetch(key);");
         s.of(12, "7: pin (true, if the second DRAW is even, else false)", due -> {
             int even = seedFor(7, true);

@@ -1,3 +1,5 @@
+import java.util.Arrays;
+
 /** Terms I: the bounds of entries, uses and counts, the orders, to put and to get. */
 final class EntrySentences {
     private EntrySentences() { }
@@ -268,9 +270,20 @@ final class EntrySentences {
             due.is("USES are 11", x.count(17), 1);
             x.put(1, 0, 1, 0);
             due.is("USES are 12", x.count(17), 2);
+            TwinOrders full = Make.many(60);
+            full.aging(120);
+            for (int key = 0; key < 60; key++) {
+                due.is("not yet", full.entry(key, 2), 1);
+                full.get(key);
+            }
+            due.first("all of 60", key -> full.entry(key, 2), ones(60));
         }).broken("uses % aging == 0", "uses % aging == 1")
             .broken("uses % aging == 0", "uses == aging")
             .broken("uses % aging == 0", "false")
+            .broken("for (int i = 0; i < size; i++) {\n                counts[i] = Math.max",
+                "for (int i = 0; i <= size; i++) {\n                counts[i] = Math.max")
+            .broken("for (int i = 0; i < size; i++) {\n                counts[i] = Math.max",
+                "for (int i = 1; i < size; i++) {\n                counts[i] = Math.max")
             .broken("counts[slot] = Math.min(counts[slot] + 1, MOST_COUNT);\n"
                 + "            if (aging > 0 && uses % aging == 0) {\n                halve();\n            }",
                 "if (aging > 0 && uses % aging == 0) {\n                halve();\n            }\n"
@@ -299,6 +312,12 @@ final class EntrySentences {
             due.is("of 2 each time", x.entry(2, 2), 1);
         }).broken("Math.max(counts[i] / 2, 1)", "counts[i] / 2")
             .broken("Math.max(counts[i] / 2, 1)", "Math.max(counts[i] / 2, 2)");
+    }
+
+    private static int[] ones(int n) {
+        int[] row = new int[n];
+        Arrays.fill(row, 1);
+        return row;
     }
 
     private static void orders(Sentences s) {
@@ -412,6 +431,11 @@ final class EntrySentences {
             x.put(5, 0, 20, 0);
             due.is("as many as it takes", x.count(11), 3);
             due.row("order(0, k)", k -> x.order(0, k), 4, 5);
+            TwinOrders full = Make.many(60);
+            full.resize(60);
+            full.put(60, 0, 60, 0);
+            due.is("all of 60", full.count(11), 60);
+            due.row("it alone is there", k -> full.order(0, k), 60);
             x.put(4, 0, 10, 0);
             due.is("one that is there, as much as CAP", x.count(11), 3);
             x.put(4, 0, 11, 0);
@@ -421,7 +445,9 @@ final class EntrySentences {
             .broken("i < MOST_ENTRIES && entries.load > cap; i++) {\n                    evict",
                 "i < MOST_ENTRIES && entries.load >= cap; i++) {\n                    evict")
             .broken("i < MOST_ENTRIES && isTight(weight); i++) {\n                    evict",
-                "i < 1 && isTight(weight); i++) {\n                    evict");
+                "i < 1 && isTight(weight); i++) {\n                    evict")
+            .broken("for (int i = 0; i < MOST_ENTRIES && isTight(weight); i++) {",
+                "for (int i = 1; i < MOST_ENTRIES && isTight(weight); i++) {");
         s.of(2, "then it comes, if it is new (COUNT 0, not PINNED); then there is a USE of it.", due -> {
             TwinOrders x = Make.store(40, 1, 1);
             Make.getAll(x, 1, 1);

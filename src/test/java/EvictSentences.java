@@ -326,9 +326,14 @@ final class EvictSentences {
             due.row("YOUNG", k -> x.ghost(0, k), 4, 2);
             x.put(3, 0, 5, 0);
             due.row("OLD", k -> x.ghost(1, k));
+            TwinOrders y = Make.store(10, 1, 10, 2, 10, 3, 10, 4, 10, 2, 10);
+            due.row("2, of the midst", k -> y.ghost(0, k), 4, 3, 1);
+            y.put(4, 0, 10, 0);
+            due.row("4, the first", k -> y.ghost(0, k), 2, 3, 1);
         }).broken("if (young.forget(key)) {\n", "if (young.forget(key)) {\n                young.add(key);\n")
             .broken("} else if (old.forget(key)) {\n",
-                "} else if (old.forget(key)) {\n                old.add(key);\n");
+                "} else if (old.forget(key)) {\n                old.add(key);\n")
+            .broken("keys[left] = keys[i];\n", "");
         s.of(1, "WAY 0 at first, BALANCE 0", due -> {
             TwinOrders x = new TwinOrders();
             due.is("WAY", x.count(3), 0);

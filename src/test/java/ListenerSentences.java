@@ -93,19 +93,26 @@ final class ListenerSentences {
             due.is("refused", removes.listener(0, 2), 1);
             TwinOrders pins = listening(5, 1, 0, 4, 1, 0);
             pins.put(2, 0, 1, 0);
-            Make.getAll(pins, 1, 1, 5);
-            due.is("pinned once, then not another, then refused", pins.listener(0, 2), 1);
+            pins.get(1);
+            due.is("pinned", pins.listener(0, 2), 1);
+            pins.get(1);
+            due.is("not another", pins.listener(0, 2), 1);
+            pins.get(5);
+            due.is("refused", pins.listener(0, 2), 1);
             TwinOrders unpins = listening(5, 1, 0, 5, 1, 0);
             unpins.put(2, 0, 1, 0);
             unpins.get(1);
             due.is("not another", unpins.listener(0, 2), 0);
             unpins.pin(2, true);
-            Make.getAll(unpins, 1, 1, 5);
-            due.is("unpinned once", unpins.listener(0, 2), 1);
+            unpins.get(1);
+            due.is("unpinned", unpins.listener(0, 2), 1);
+            Make.getAll(unpins, 1, 5);
+            due.is("not another, refused", unpins.listener(0, 2), 1);
         })
             .broken("return store.takeOut(key) != BAD_STANDING;",
                 "store.takeOut(key);\n                    return true;")
             .broken("return store.fasten(key, true) == 1;", "return store.fasten(key, true) >= 0;")
+            .broken("return store.fasten(key, true) == 1;", "return store.fasten(key, true) == 0;")
             .broken("return store.fasten(key, false) == 1;", "return store.fasten(key, false) >= 0;")
             .broken("return store.fasten(key, true) == 1;", "return store.fasten(key, true) != 0;");
         s.of(19, "6: CAP is another).", due -> {
@@ -165,9 +172,13 @@ final class ListenerSentences {
             z.listen(5, 9, 0, 2, 1, 0);
             due.is("999 leaves 5 by 7, and 1 is 0", z.wakes(0, 1), 1);
             due.is("999 leaves 0 by 9, and 1 is 0", z.wakes(2, 2), 1);
+            due.is("0 by 9 less 1: 0 alone comes to 0 by 9, as 999", listening(5, 9, 0, 2, -1, 0).wakes(0, 0), 1);
+            due.is("1 by 9 less 1 never comes to 1 by 9", listening(5, 9, 1, 2, -1, 0).wakes(0, 0), 0);
         })
             .broken("for (int key = 0; key < KEYS; key++) {\n                if (hearsKey(key)",
                 "for (int key = 0; key < KEYS - 1; key++) {\n                if (hearsKey(key)")
+            .broken("for (int key = 0; key < KEYS; key++) {\n                if (hearsKey(key)",
+                "for (int key = 1; key < KEYS; key++) {\n                if (hearsKey(key)")
             .broken("hearsKey(key) && other.hearsKey(keyFor(key))", "other.hearsKey(keyFor(key))")
             .broken("hearsKey(key) && other.hearsKey(keyFor(key))", "hearsKey(key) && other.hearsKey(key)");
         s.of(27, "NONE when there are none such.", due -> {

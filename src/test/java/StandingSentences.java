@@ -31,7 +31,14 @@ final class StandingSentences {
             TwinOrders x = five();
             due.first("entry(10, what)", what -> x.entry(10, what), -5, 3, 3, 5);
             due.first("entry(50, what)", what -> x.entry(50, what), 0, 7, 1, 8);
+            x.put(50, -77, 7, 0);
+            x.remove(10);
+            due.first("entry(50, what), another one is gone", what -> x.entry(50, what), -77, 7, 2, 9, -1, 0, 3, 3);
         }).broken("case 0: return all.values[slot];", "case 0: return all.weights[slot];")
+            .broken("values[slot] = values[size];", "")
+            .broken("weights[slot] = weights[size];", "")
+            .broken("counts[slot] = counts[size];", "")
+            .broken("lasts[slot] = lasts[size];", "")
             .broken("case 1: return all.weights[slot];", "case 1: return all.counts[slot];")
             .broken("case 2: return all.counts[slot];", "case 2: return all.lasts[slot];")
             .broken("case 3: return all.lasts[slot];", "case 3: return all.counts[slot];");
@@ -141,12 +148,16 @@ final class StandingSentences {
         s.of(18, "ORDER 1 by COUNTS: how many unlike COUNTS there are (k NONE, whatever what)", due -> {
             due.is("none", new TwinOrders().bucket(-1, 0), 0);
             due.is("one", Make.many(60).bucket(-1, 0), 1);
+            TwinOrders unlike = Make.store(40, 1, 1, 2, 1);
+            unlike.get(2);
+            due.is("as many as ENTRIES", unlike.bucket(-1, 0), 2);
             TwinOrders x = five();
             for (int what : new int[] {0, 1, 2, 3, -1, Integer.MIN_VALUE, Integer.MAX_VALUE}) {
                 due.is("bucket(-1, " + what + ")", x.bucket(-1, what), 3);
             }
         }).broken("return all.unlikeCounts();", "return what == 0 ? all.unlikeCounts() : NONE;")
-            .broken("return all.unlikeCounts();", "return all.size;");
+            .broken("return all.unlikeCounts();", "return all.size;")
+            .broken("for (int i = 0; i < size && at != NONE; i++) {", "for (int i = 1; i < size && at != NONE; i++) {");
         s.of(18, "how many ENTRIES have the k-th, rising (what 0), that COUNT (1), their WEIGHTS together (2).", due -> {
             TwinOrders x = five();
             due.row("bucket(k, 0)", k -> x.bucket(k, 0), 3, 1, 1);
@@ -155,7 +166,13 @@ final class StandingSentences {
             x.get(10);
             x.get(10);
             due.row("a gap", k -> x.bucket(k, 1), 1, 2, 5);
+            x.remove(50);
+            due.row("50 is gone", k -> x.bucket(k, 0), 2, 1, 1);
+            due.row("50 is gone", k -> x.bucket(k, 2), 11, 4, 3);
+            due.is("all of 60", Make.many(60).bucket(0, 0), 60);
         }).broken("case 0: return all.howManyOf(shared);", "case 0: return shared;")
+            .broken("int howManyOf(int shared) {\n            int found = 0;\n            for (int i = 0; i < size; i++) {",
+                "int howManyOf(int shared) {\n            int found = 0;\n            for (int i = 0; i <= size; i++) {")
             .broken("case 1: return shared;", "case 1: return k + 1;")
             .broken("case 2: return all.weightsOf(shared);", "case 2: return all.howManyOf(shared);")
             .broken("counts[i] < found)", "counts[i] > found)");

@@ -84,7 +84,12 @@ final class WouldBeSentences {
                 due.is("none is EVICTED by it", x.count(11), 0);
                 TwinOrders full = Make.many(60);
                 due.row("of 60 one", k -> full.victims(1, k), 0);
+                full.resize(60);
+                due.is("of 60 all", full.victims(60, -1), 60);
+                due.is("the last of 60", full.victims(60, 59), 59);
             }).broken("store.isTight(weight)", "store.isTight(weight - 1)")
+            .broken("for (int i = 0; i < MOST_ENTRIES && store.isTight(weight); i++) {",
+                "for (int i = 1; i < MOST_ENTRIES && store.isTight(weight); i++) {")
             .broken("store.isTight(weight)", "store.isTight(weight + 1)")
             .broken("? gone.keys[k] : NONE", "? gone.keys[gone.size - 1 - k] : NONE");
         s.of(23, "(none of ENTRIES, none of GHOSTS)", due -> {
@@ -232,11 +237,20 @@ final class WouldBeSentences {
             due.is("LOAD", heavy.count(1), 5000);
             due.is("all of 5000", heavy.pack(5000), 60);
             due.is("one less", heavy.pack(4999), 59);
+            heavy.resize(0);
+            heavy.resize(99);
+            heavy.put(1, 0, 99, 0);
+            heavy.get(1);
+            due.is("one, twice used", heavy.pack(99), 2);
+            heavy.remove(1);
+            heavy.put(2, 0, 99, 0);
+            due.is("nothing is left of what was packed before", heavy.pack(99), 1);
             due.is("nothing there", new TwinOrders().pack(5000), 0);
         }).broken("for (int w = free; w >= weight; w--) {", "for (int w = weight; w <= free; w++) {")
             .broken("for (int w = free; w >= weight; w--) {", "for (int w = free; w > weight; w--) {")
             .broken("return pinnedCounts + packed[free];", "return packed[free];")
             .broken("Arrays.fill(packed, 0, free + 1, 0);", "")
+            .broken("Arrays.fill(packed, 0, free + 1, 0);", "Arrays.fill(packed, 0, free, 0);")
             .broken("if (all.pinned[i]) {\n                pinnedCounts", "if (false) {\n                pinnedCounts");
         s.of(26, "NONE when PINNED ones are above c", due -> {
             TwinOrders x = four();
@@ -375,7 +389,14 @@ final class WouldBeSentences {
             due.first("lead(1, n)", n -> x.lead(1, n), 0, 12, 24, 34, 39, 39, 39);
             due.is("of all", x.lead(0, Integer.MAX_VALUE), 39);
             due.is("nothing there", new TwinOrders().lead(1, 3), 0);
+            x.remove(4);
+            due.first("4 is gone", n -> x.lead(0, n), 0, 10, 22, 27, 27);
+            TwinOrders full = Make.many(60);
+            due.is("59 of 60", full.lead(1, 59), 59);
+            due.is("60 of 60", full.lead(1, 60), 60);
         }).broken("if (placeOf(order, i) < place) {", "if (placeOf(order, i) <= place) {")
+            .broken("int sum = 0;\n            for (int i = 0; i < size; i++) {\n                if (placeOf",
+                "int sum = 0;\n            for (int i = 0; i <= size; i++) {\n                if (placeOf")
             .broken("if (place >= size) {\n                return load;",
                 "if (place >= size) {\n                return NONE;")
             .broken("if (placeOf(order, i) < place) {", "if (placeOf(BY_USE, i) < place) {");
@@ -418,9 +439,14 @@ final class WouldBeSentences {
             x.put(5, 0, 1, 0);
             due.is("the second one went", x.logged(5, 0), 1);
             due.is("and its DEPTH", x.logged(5, 1), 0);
+            TwinOrders one = Make.asked(7);
+            due.is("one alone", one.logged(5, 0), 1);
+            due.is("its DEPTH", one.logged(5, 1), 0);
         }).broken("case 0: return now.log.howMany(kind);", "case 0: return now.store.happened[kind];")
             .broken("found = Math.max(found, depths[i]);", "found = depths[i];")
-            .broken("case 1: return now.log.deepest(kind);", "case 1: return now.deepest;");
+            .broken("case 1: return now.log.deepest(kind);", "case 1: return now.deepest;")
+            .broken("int found = NONE;\n            for (int i = 0; i < size; i++) {\n                if (kinds[i] == kind) {",
+                "int found = NONE;\n            for (int i = 1; i < size; i++) {\n                if (kinds[i] == kind) {");
         s.of(33, "(1; NONE without)", due -> {
             TwinOrders x = fourLogged();
             for (int kind : new int[] {1, 2, 3, 4, 6}) {
@@ -439,8 +465,11 @@ final class WouldBeSentences {
             x.turn(0, false);
             x.get(8);
             due.is("MISSED 8, as it is not ON", x.logged(5, 2), 2);
+            due.is("one alone", Make.asked(7).logged(5, 2), 1);
         }).broken("kinds[i] == kind && hearers[i] == 0", "kinds[i] == kind && hearers[i] != 0")
-            .broken("kinds[i] == kind && hearers[i] == 0", "hearers[i] == 0");
+            .broken("kinds[i] == kind && hearers[i] == 0", "hearers[i] == 0")
+            .broken("for (int i = 0; i < size; i++) {\n                if (kinds[i] == kind && hearers",
+                "for (int i = 1; i < size; i++) {\n                if (kinds[i] == kind && hearers");
         s.of(33, "NONE when there is no such kind", due -> {
             TwinOrders x = fourLogged();
             for (int what = 0; what <= 2; what++) {
@@ -502,6 +531,11 @@ final class WouldBeSentences {
             TwinOrders x = Make.asked(7, 3, 9, 3, 7, 7, 2);
             none(due, "hot(k, 0)", k -> x.hot(k, 0), 4, 5, 99, 100);
             none(due, "hot(k, 1)", k -> x.hot(k, 1), 4, 5, 99, 100);
+            TwinOrders many = new TwinOrders();
+            for (int key = 0; key < 100; key++) {
+                many.get(key);
+            }
+            none(due, "hot(k, 0) of 100", k -> many.hot(k, 0), 100, 101);
             due.is("nothing requested", new TwinOrders().hot(0, 0), -1);
         }).broken("if (often[i] > 0 && hotterThan(i) == k) {", "if (hotterThan(i) == k) {")
             .broken("if (k == NONE) {\n            return anew.unlike();",
